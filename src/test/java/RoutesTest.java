@@ -216,6 +216,11 @@ public final class RoutesTest {
         Due.is("8 to the 12", r.count(2, 0, 0, 12), SpeltRoutes.FULL);
         Due.is("one", r.count(3, 0, 0, 12), 1);
         Due.is("told FULL", r.told(2), 3);
+        Due.reads(r, 3, "(.|-)(.|-)(.|-)(.|A)*");
+        Due.is("as many as may be", r.count(3, 0, 0, 12), 1000000000);
+        Due.reads(r, 3, "(.|-)(.|-)(.|-)(.|A)*|D*");
+        Due.is("one more", r.count(3, 0, 0, 12), SpeltRoutes.FULL);
+        Due.is("one more", r.count(3, 0, 0, 11), 200000001);
         // Many ROUTES that do not FIT in the end are not too many.
         Due.reads(r, 3, "(.|-)*ABCDABCDABCD");
         Due.is("one", r.count(3, 0, 0, 12), 1);
