@@ -211,6 +211,29 @@ final class Model {
         return NONE;
     }
 
+    /** How many STATES the WORDS of n signs or fewer lead to, without any limit. */
+    static int statesBy(String text, int n) {
+        return pairsBy(text, text, n);
+    }
+
+    static int pairsBy(String one, String other, int n) {
+        Told x = new Told(one);
+        Told y = new Told(other);
+        Set<List<Set<Integer>>> all = new HashSet<>(Set.of(List.of(START, START)));
+        List<List<Set<Integer>>> layer = new ArrayList<>(all);
+        for (int k = 0; k < n && !layer.isEmpty(); k++) {
+            List<List<Set<Integer>>> then = new ArrayList<>();
+            for (List<Set<Integer>> pair : layer) {
+                for (int s = 0; s < 8; s++) {
+                    List<Set<Integer>> to = List.of(x.next(pair.get(0), s), y.next(pair.get(1), s));
+                    if (all.add(to)) then.add(to);
+                }
+            }
+            layer = then;
+        }
+        return all.size();
+    }
+
     // ---- routes
 
     List<Step> steps(int without) {

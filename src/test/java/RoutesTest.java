@@ -74,9 +74,9 @@ public final class RoutesTest {
             Model m = new Model();
             m.draw(seed * 1000 + 3, 14);
             for (int x = 0; x < TEXTS.length; x++) {
-                SpeltRoutes r = Due.with(TEXTS[x]);
-                r.draw(seed * 1000 + 3, 14);
                 for (int u = 0; u < 10; u += 3) {
+                    SpeltRoutes r = Due.with(TEXTS[x]);
+                    r.draw(seed * 1000 + 3, 14);
                     boolean[] found = new boolean[10];
                     for (int n = 0; n <= 4; n++) {
                         compare(r, allRoutes(m.steps(-1), u, n), Tree.of(TEXTS[x]), u, n, found);

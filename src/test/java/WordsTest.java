@@ -25,10 +25,12 @@ public final class WordsTest {
     /** All words of up to four signs, by the tree that tries every cut. */
     private static void acceptsByTree() {
         for (String text : TEXTS) {
-            SpeltRoutes r = Due.with(text);
+            SpeltRoutes r = null;
             Tree tree = Tree.of(text);
             for (int n = 0, all = 1; n <= 4; n++, all *= 8) {
                 for (int w = 0; w < all; w++) {
+                    // No object is used for more than 512 calls.
+                    r = w % 256 == 0 ? Due.with(text) : r;
                     String word = word(w, n);
                     int code = n == 0 ? 0 : Integer.parseInt(word);
                     Due.is(text + " accepts " + word, r.accepts(0, n, code), tree.takes(word) ? 1 : 0);
