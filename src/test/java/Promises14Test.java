@@ -10,6 +10,8 @@ public final class Promises14Test {
         noneAndAllPairs();
         withoutEdges();
         howFar();
+        theLongestRoute();
+        inAnyOrder();
         countsOfNoneAndTwelve();
         thousandMillionRoutes();
         fourHundredStates();
@@ -86,9 +88,72 @@ public final class Promises14Test {
         Due.is("a loop", r.far(1, 0, 0), 1);
         r.anew();
         Due.is("no EDGES", r.far(1, 0, 0), NONE);
-        // The longest there is: 24 PLACES in a row that goes round, on a ring of 10 with 23 and 1.
-        r = ring("(" + "a".repeat(23) + ")*a");
-        Due.is("the longest", r.far(0, 0, 8), 208);
+        // Two EDGES lead on from 1 to the end, each by PLACES of its own.
+        r = Due.with("ab|cc", "ac|bb");
+        r.edge(0, 0, 1);
+        r.edge(1, 1, 2);
+        r.edge(1, 2, 2);
+        Due.is("by b", r.far(0, 0, 2), 2);
+        Due.is("by c", r.far(1, 0, 2), 2);
+    }
+
+    /** 14 to 20: the longest there can be goes through all PLACES at all VERTICES, 240 STEPS. */
+    private static void theLongestRoute() {
+        SpeltRoutes r = Due.with("(" + "a".repeat(23) + "b)+");
+        for (int v = 0; v < 10; v++) {
+            r.edge(v, 0, v);
+            r.edge(v, 1, (v + 1) % 10);
+        }
+        Due.is("far", r.far(0, 0, 0), 240);
+        Due.is("far", r.far(0, 0, 9), 216);
+        Due.is("answers", r.answers(0, 0, 0), 1);
+        Due.is("pairs", r.pairs(0), 100);
+        Due.is("first STEP", r.route(0, 0, 0, 0, 0), 0);
+        Due.is("first b", r.route(0, 0, 0, 23, 0), 1);
+        Due.is("last a", r.route(0, 0, 0, 238, 0), 18);
+        Due.is("last STEP", r.route(0, 0, 0, 239, 0), 19);
+        Due.is("last STEP", r.route(0, 0, 0, 239, 2), 0);
+        Due.is("no more", r.route(0, 0, 0, 240, 0), NONE);
+        Due.is("bridge", r.bridge(0, 0, 0), 0);
+        r.drop(19);
+        Due.is("the ring is open", r.far(0, 0, 0), NONE);
+        Due.is("the ring is open", r.far(0, 0, 9), 216);
+    }
+
+    /** What was asked ahead of it changes no answer: forth and back through all pairs, and by new objects. */
+    private static void inAnyOrder() {
+        String[] texts = {"(a|B)+c*", ".*", "a?b?C?", "(.|-)(.|-)"};
+        int[][] forth = new int[4][100];
+        SpeltRoutes r = null;
+        for (int i = 0; i < 400; i++) {
+            if (i % 100 == 0) {
+                r = Due.with(texts);
+                r.draw(42, 16);
+            }
+            forth[i / 100][i % 100] = shown(r, i);
+        }
+        for (int i = 399; i >= 0; i--) {
+            if (i % 100 == 99) {
+                r = Due.with(texts);
+                r.draw(42, 16);
+            }
+            Due.is("back", shown(r, i), forth[i / 100][i % 100]);
+        }
+        for (int i = 0; i < 400; i++) {
+            r = Due.with(texts);
+            r.draw(42, 16);
+            Due.is("alone", shown(r, i), forth[i / 100][i % 100]);
+        }
+    }
+
+    private static int shown(SpeltRoutes r, int i) {
+        int x = i / 100;
+        int u = i / 10 % 10;
+        int v = i % 10;
+        int h = r.far(x, u, v);
+        h = 31 * h + r.route(x, u, v, 0, 0);
+        h = 31 * h + r.route(x, u, v, 1, 2);
+        return 31 * h + r.bridge(x, u, v);
     }
 
     // ---- 18
@@ -143,6 +208,9 @@ public final class Promises14Test {
         most(10, "(.|A)*a(a|A)(a|b)(a|b)b?.(a|b)(.|-)(.|-)(.|A)a?.");
         most(12, "(a*b)*b(.|-)(a|b)(b|A)(.|-)b?.(b|A)(.|-)b.(b|A)|-*A.");
         most(12, "(.|-)*b(.|-)(.|-)(.|-)(b|A)(.|A)(a|b)(a|A)(.|-)(a|A)(a|b)a");
+        // 400 by 10, and no more by 12.
+        most(10, "(.|-)*a(.|-)(a|b)(.|-)b?.(.|A).(.|-)a|-*Ab");
+        most(12, "(.|-)*a(.|-)(a|b)(.|-)b?.(.|A).(.|-)a|-*Ab");
         more(9, "(.|-)*a(.|-)(.|A)(.|A)(a|A)(a|A)(.|-)(a|A)-(.|-)");
         more(10, "(.|-)*a(.|-)(a|b)(.|-)(.|A)(.|A)(.|A)(b|A)?-(.|-)-");
         more(11, "(.|A)*a...(a|b)(a|b).(.|A)(a|A)A(a|A)?(b|A)");
@@ -278,6 +346,9 @@ public final class Promises14Test {
         r.anew();
         r.edge(0, 3, 1);
         Due.is("the first", r.bridge(0, 0, 1), 0);
+        r.edge(1, 3, 2);
+        Due.is("the least is first on the ROUTE", r.bridge(1, 0, 2), 0);
+        r.drop(1);
         r.edge(5, 3, 5);
         Due.is("a loop", r.bridge(0, 5, 5), 1);
         Due.is("a loop gone twice", r.bridge(1, 5, 5), 1);

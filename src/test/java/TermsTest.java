@@ -305,6 +305,10 @@ public final class TermsTest {
         }
         reads(MOST + "*+?()|()(())", 24);
         reads("()".repeat(28) + MOST, 24);
+        // The 24th leads on as the others do.
+        SpeltRoutes r = Due.with("a|".repeat(23) + "b+", "b?".repeat(22) + "(ac)*");
+        Due.is("to itself", r.accepts(0, 9, 111111111), 1);
+        Due.is("to the 23rd", r.accepts(1, 6, 20202), 1);
     }
 
     /** "(a 25th PLACE, too)": its own place is the FAULT, whatever stands between or behind. */
