@@ -75,11 +75,19 @@ public final class FaceTest {
                 Due.holds(m + " has a name of its own", !names.contains(m.getName()));
                 Due.holds(m + " takes seven at most", m.getParameterCount() <= 7);
             }
-            for (Field f : c.getDeclaredFields()) {
-                int how = f.getModifiers();
-                Due.holds(f + " is final, if static", !Modifier.isStatic(how) || Modifier.isFinal(how));
-            }
+            fields(c);
         }
+        fields(SpeltRoutes.class);
+    }
+
+    private static void fields(Class<?> c) {
+        int many = 0;
+        for (Field f : c.getDeclaredFields()) {
+            boolean constant = Modifier.isStatic(f.getModifiers());
+            Due.holds(f + " is final, if static", !constant || Modifier.isFinal(f.getModifiers()));
+            many += constant ? 0 : 1;
+        }
+        Due.holds(c + " has twenty fields at most: " + many, many <= 20);
     }
 
     private static void words(String code) {
